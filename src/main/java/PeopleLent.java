@@ -409,6 +409,7 @@ public final class PeopleLent {
         if (!within(what, 0, hall.readers)) {
             return NONE;
         }
+        finder.fillNear();
         return finder.mostServed(what);
     }
 
@@ -1082,7 +1083,7 @@ public final class PeopleLent {
             parts = 0;
             for (int clause = 0; clause < MOST_CLAUSES; clause++) {
                 boolean could = isLaw ? lawClause(clause) : orderClause(clause);
-                if (!could) {
+                if (!could || !condition(clause)) {
                     return false;
                 }
                 if (token[at] == END) {
@@ -1184,7 +1185,7 @@ public final class PeopleLent {
                 }
                 text.add(STOP);
             }
-            return condition(clause);
+            return true;
         }
 
         private boolean orderClause(int clause) {
@@ -1212,7 +1213,7 @@ public final class PeopleLent {
                 }
                 text.add(STOP);
             }
-            return repeats(clause) && condition(clause);
+            return repeats(clause);
         }
 
         private boolean repeats(int clause) {
@@ -1353,13 +1354,16 @@ public final class PeopleLent {
                 return fails();
             }
             parts++;
-            int number = numberHere(0, MOST_NUMBER);
-            if (number != NONE) {
-                at++;
-                text.add(number);
-                return true;
+            int code = numberHere(0, MOST_NUMBER);
+            if (code == NONE) {
+                code = isLaw ? lawWord() : orderWord();
             }
-            return isLaw ? lawWord() : orderWord();
+            if (code == NONE) {
+                return fails();
+            }
+            at++;
+            text.add(code);
+            return true;
         }
 
         private boolean inner(int depth) {
@@ -1377,44 +1381,29 @@ public final class PeopleLent {
             return true;
         }
 
-        private boolean lawWord() {
+        private int lawWord() {
             int word = token[at] - LAW_WORDS_FROM;
-            if (word < 0 || word >= LAW_WORDS) {
-                return fails();
-            }
-            at++;
-            text.add(WORD + word);
-            return true;
+            return word >= 0 && word < LAW_WORDS ? WORD + word : NONE;
         }
 
-        private boolean orderWord() {
+        /** Of a word with a number behind it, the number is what is gone past next. */
+        private int orderWord() {
             switch (token[at]) {
-                case TOKEN_WEEK: return plainWord(WORD_WEEK);
-                case TOKEN_DONE: return plainWord(WORD_DONE);
-                case TOKEN_LATEST: return plainWord(WORD_LATEST);
-                case TOKEN_WAITING: return plainWord(WORD_WAITING);
+                case TOKEN_WEEK: return WORD + WORD_WEEK;
+                case TOKEN_DONE: return WORD + WORD_DONE;
+                case TOKEN_LATEST: return WORD + WORD_LATEST;
+                case TOKEN_WAITING: return WORD + WORD_WAITING;
                 case TOKEN_WITH: return wordOfOne(WORD_WITH, MOST_READERS);
                 case TOKEN_WORN: return wordOfOne(WORD_WORN, MOST_READERS);
                 case TOKEN_PURSE: return wordOfOne(WORD_PURSE, MOST_BOOKS);
-                default: return fails();
+                default: return NONE;
             }
         }
 
-        private boolean plainWord(int word) {
+        private int wordOfOne(int word, int most) {
             at++;
-            text.add(WORD + word);
-            return true;
-        }
-
-        private boolean wordOfOne(int word, int most) {
-            at++;
-            int one = numberHere(0, most - 1);
-            if (one == NONE) {
-                return fails();
-            }
-            at++;
-            text.add(WORD + word + one);
-            return true;
+            int one = token[at] - NUMBERS_FROM;
+            return one >= 0 && one < most ? WORD + word + one : NONE;
         }
     }
 
@@ -1496,9 +1485,8 @@ public final class PeopleLent {
             this.hall = hall;
         }
 
-        /** SERVED: how many (what 0), else the BOOK of READER what - 1. */
+        /** SERVED, behind fillNear(): how many (what 0), else the BOOK of READER what - 1. */
         int mostServed(int what) {
-            fillNear();
             int free = (1 << hall.books) - 1;
             int left = mostPairs(0, free);
             if (what == 0) {
@@ -1518,7 +1506,7 @@ public final class PeopleLent {
         }
 
         /** For each set of READERS the BOOKS that CAN HAVE one of them. */
-        private void fillNear() {
+        void fillNear() {
             near[0] = 0;
             for (int r = 0; r < hall.readers; r++) {
                 int can = 0;

@@ -1178,14 +1178,15 @@ public final class PeopleLent {
             }
             at++;
             text.open(kind);
-            if (kind != BARS) {
-                text.first[clause] = text.size;
-                if (!sum(0)) {
-                    return false;
-                }
-                text.add(STOP);
-            }
-            return true;
+            return kind == BARS || wholeSum(text.first, clause);
+        }
+
+        /** A CLAUSE's SUM, whose start is noted. */
+        private boolean wholeSum(int[] starts, int clause) {
+            starts[clause] = text.size;
+            boolean could = sum(0);
+            text.add(STOP);
+            return could;
         }
 
         private boolean orderClause(int clause) {
@@ -1195,23 +1196,17 @@ public final class PeopleLent {
             }
             at++;
             text.open(kind);
-            if (kind != PASS) {
-                text.first[clause] = text.size;
-                if (!sum(0)) {
-                    return false;
-                }
-                text.add(STOP);
+            if (kind != PASS && !wholeSum(text.first, clause)) {
+                return false;
             }
             if (kind == LEND || kind == WAIT) {
                 if (token[at] != (kind == LEND ? TOKEN_TO : TOKEN_FOR)) {
                     return fails();
                 }
                 at++;
-                text.second[clause] = text.size;
-                if (!sum(0)) {
+                if (!wholeSum(text.second, clause)) {
                     return false;
                 }
-                text.add(STOP);
             }
             return repeats(clause);
         }
@@ -1236,11 +1231,9 @@ public final class PeopleLent {
             }
             at++;
             text.test[clause] = text.size;
-            if (!test(0)) {
-                return false;
-            }
+            boolean could = test(0);
             text.add(STOP);
-            return true;
+            return could;
         }
 
         private boolean test(int depth) {

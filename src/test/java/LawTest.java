@@ -100,6 +100,11 @@ public final class LawTest {
         fault("bars if " + Check.many("not ", 97) + "1=1", -1);
         fault("bars if 1=1" + Check.many(" ", 389), -1);
         fault("bars if 1=" + Check.many(" ", 390), 400);
+        fault(Check.many("?", 400), 0);
+        fault("fines 1" + Check.many("?", 393), 7);
+        fault(Check.many("7", 400), 0);
+        fault("fines " + Check.many("0", 393) + "7", -1);
+        fault("bars if " + Check.many("x", 392), 8);
     }
 
     private static void room() {

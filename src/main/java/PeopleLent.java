@@ -49,7 +49,8 @@ public final class PeopleLent {
     private static final int MOST_NUMBER = 1000;
     private static final int MOST_TIMES = 20;
     private static final int MOST_VALUE = 1000000000;
-    private static final int BROKEN = Integer.MIN_VALUE;
+    /** Beyond all that a SUM may be. */
+    private static final int BROKEN = -2000000000;
     private static final int FALSE = 0;
     private static final int TRUE = 1;
 

@@ -51,18 +51,8 @@ final class LawSentences {
         }
     }
 
-    /** Book 1 has reader 1 since week 4, it is week 6; book 0 and reader 0 are at rest. */
     private static PeopleLent library(String text) {
-        PeopleLent x = new PeopleLent();
-        x.book(4, 0, 1, 23);
-        x.book(9, 2, 8, 55);
-        x.reader(7, 0);
-        x.reader(18, 0);
-        x.terms(3, 8);
-        x.terms(0, 4);
-        x.lend(1, 1);
-        x.pass();
-        x.pass();
+        PeopleLent x = Worlds.lawful();
         Check.law(x, text);
         x.force(0);
         return x;
@@ -73,7 +63,7 @@ final class LawSentences {
             + "\"mood\".");
         String[] word = {"book", "length", "purse", "reader", "traits", "worn", "kept", "week", "mood"};
         int[] due = {1, 9, 55, 1, 18, 2, 2, 6, 8};
-        int[] other = {0, 4, 23, 0, 7, 0, -1, 6, 8};
+        int[] other = {0, 4, 83, 0, 7, 0, -1, 6, 8};
         for (int i = 0; i < word.length; i++) {
             PeopleLent x = library("fines 10+" + word[i]);
             s.due(word[i] + " of 1 and 1", x.asks(1, 1, 0), 10 + due[i]);

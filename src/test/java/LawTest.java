@@ -126,23 +126,8 @@ public final class LawTest {
         c.due("fault", x.fault(), -1);
     }
 
-    /** A library with two books, the second of which has reader 1 since week 4; it is week 6. */
-    private static PeopleLent library() {
-        PeopleLent x = new PeopleLent();
-        x.book(4, 0, 1, 123);
-        x.book(9, 2, 8, 55);
-        x.reader(7, 0);
-        x.reader(18, 0);
-        x.terms(3, 8);
-        x.terms(0, 4);
-        x.lend(1, 1);
-        x.pass();
-        x.pass();
-        return x;
-    }
-
     private static void tells(String text, int book, int reader, int what, int due) {
-        PeopleLent x = library();
+        PeopleLent x = Worlds.lawful();
         c.due(text, Check.law(x, text), 0);
         x.force(0);
         c.due(text + ": " + what, x.asks(book, reader, what), due);
@@ -232,7 +217,7 @@ public final class LawTest {
     }
 
     private static void force() {
-        PeopleLent x = library();
+        PeopleLent x = Worlds.lawful();
         c.due("no such law", x.force(0), -2);
         c.due("status", x.status(), -2);
         c.due("none", x.force(-1), -1);
@@ -253,7 +238,7 @@ public final class LawTest {
     }
 
     private static void asks() {
-        PeopleLent x = library();
+        PeopleLent x = Worlds.lawful();
         int[] due = {2, 1, 4, 0, 1, 1};
         for (int what = 0; what < 6; what++) {
             c.due("asks(0, 0, " + what + ")", x.asks(0, 0, what), due[what]);

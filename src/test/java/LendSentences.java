@@ -210,11 +210,34 @@ final class LendSentences {
         s.due("last then", w.lend(0, 0), 0);
         w.bring(0);
         s.due("next in order", w.turn(0), 2);
+        for (int one = 0; one < 12; one++) {
+            PeopleLent full = twelveWait();
+            s.due("one of twelve", full.lend(one / 3, one % 3), 0);
+            s.due("it is over", full.count(3), 11);
+            for (int other = 0; other < 12; other++) {
+                s.due("the others are not", full.waits(other % 3, other / 3) == -3 ? 1 : 0, 1);
+            }
+        }
         PeopleLent first = new PeopleLent();
         first.book(1, 0, 0, 0);
         first.reader(0, 0);
         s.due("none waits", first.lend(0, 0), 0);
         s.due("none is over", first.count(3), 0);
+    }
+
+    /** Books 0, 1, 2 wait for readers 0 .. 3 each, reader by reader. */
+    private static PeopleLent twelveWait() {
+        PeopleLent x = new PeopleLent();
+        for (int b = 0; b < 3; b++) {
+            x.book(1, 0, 0, 0);
+        }
+        for (int r = 0; r < 4; r++) {
+            x.reader(0, 0);
+        }
+        for (int one = 0; one < 12; one++) {
+            x.waits(one % 3, one / 3);
+        }
+        return x;
     }
 
     private static void bringing(Sentences s) {

@@ -12,18 +12,6 @@ final class OrderSentences {
         stopping(s);
     }
 
-    /** Three books, the last wants 4; three readers, the last rare; week 0, all at the desk. */
-    private static PeopleLent library() {
-        PeopleLent x = new PeopleLent();
-        x.book(2, 0, 1, 100);
-        x.book(3, 0, 2, 7);
-        x.book(1, 4, 4, 50);
-        x.reader(0, 0);
-        x.reader(3, 0);
-        x.reader(63, 1);
-        return x;
-    }
-
     private static void clauses(Sentences s) {
         s.says("ORDERS: CLAUSE: (\"lend\" SUM \"to\" SUM | \"bring\" SUM | \"wait\" SUM \"for\" SUM | \"pass\") "
             + "[\"times\" TIMES] [\"if\" TEST].");
@@ -54,7 +42,7 @@ final class OrderSentences {
         }
 
         s.says("(a READER, a BOOK; a READER; a BOOK, a READER; a week.)");
-        PeopleLent x = library();
+        PeopleLent x = Worlds.orderly();
         s.due("lend, wait, pass", Check.orders(x, "lend 0 to 1;wait 2 for 1;pass"), 3);
         s.due("reader 0 with book 1", x.at(0, 3), 1);
         s.due("book 2 waits for reader 1", x.waits(2, 1), -3);
@@ -63,8 +51,8 @@ final class OrderSentences {
         s.due("at the desk", x.at(0, 3), -1);
 
         s.says("TIMES: a NUMBER 1 .. 20.");
-        s.due("once", Check.orders(library(), "pass times 1"), 1);
-        s.due("20 times", Check.orders(library(), "pass times 20"), 20);
+        s.due("once", Check.orders(Worlds.orderly(), "pass times 1"), 1);
+        s.due("20 times", Check.orders(Worlds.orderly(), "pass times 20"), 20);
         s.ordersFault("pass times 0", 11);
         s.ordersFault("pass times 21", 11);
         s.ordersFault("pass times 1000", 11);
@@ -118,7 +106,7 @@ final class OrderSentences {
 
     private static void running(Sentences s) {
         s.says("Run CLAUSE by CLAUSE, each as often as TIMES tell (once without);");
-        PeopleLent x = library();
+        PeopleLent x = Worlds.orderly();
         s.due("once", Check.orders(x, "pass"), 1);
         s.due("week", x.count(13), 1);
         s.due("as often", Check.orders(x, "pass times 3;pass;pass times 2"), 6);
@@ -127,7 +115,7 @@ final class OrderSentences {
         s.due("with", x.at(1, 3), 0);
 
         s.says("each time its \"if\" is asked (not run, if it is not so or BROKEN), then its SUMS from the left.");
-        PeopleLent y = library();
+        PeopleLent y = Worlds.orderly();
         s.due("as long as it is so", Check.orders(y, "pass times 20 if week<4"), 4);
         s.due("not so at first, so later", Check.orders(y, "pass times 3 if week>4;pass;pass times 3 if week>4"), 4);
         s.due("not so", Check.orders(y, "pass if 1=2"), 0);
@@ -147,7 +135,7 @@ final class OrderSentences {
     }
 
     private static PeopleLent lent() {
-        PeopleLent x = library();
+        PeopleLent x = Worlds.orderly();
         x.lend(1, 1);
         x.pass();
         x.pass();
@@ -158,9 +146,9 @@ final class OrderSentences {
 
     private static void told(Sentences s) {
         s.says("done: how many were run in this TEXT,");
-        value(s, library(), "", "done", 0);
-        value(s, library(), "pass;pass;", "done", 2);
-        PeopleLent x = library();
+        value(s, Worlds.orderly(), "", "done", 0);
+        value(s, Worlds.orderly(), "pass;pass;", "done", 2);
+        PeopleLent x = Worlds.orderly();
         s.due("those not run aside", Check.orders(x, "pass if 1=2;pass times 3;pass if done=3"), 4);
         s.due("in this text", Check.orders(x, "pass if done=0"), 1);
 
@@ -177,7 +165,7 @@ final class OrderSentences {
 
         s.says("waiting: how many are WAITING,");
         value(s, lent(), "", "waiting", 2);
-        value(s, library(), "", "waiting", 0);
+        value(s, Worlds.orderly(), "", "waiting", 0);
         value(s, lent(), "wait 0 for 0;", "waiting", 3);
         value(s, lent(), "lend 1 to 0;", "waiting", 1);
 

@@ -13,19 +13,8 @@ public final class OrdersTest {
         c.finish("OrdersTest");
     }
 
-    private static PeopleLent library() {
-        PeopleLent x = new PeopleLent();
-        x.book(2, 0, 1, 100);
-        x.book(3, 0, 2, 7);
-        x.book(1, 4, 4, 50);
-        x.reader(0, 0);
-        x.reader(3, 0);
-        x.reader(63, 1);
-        return x;
-    }
-
     private static void fault(String text, int place) {
-        PeopleLent x = library();
+        PeopleLent x = Worlds.orderly();
         c.due("orders: " + text, Check.orders(x, text) == -6 ? 1 : 0, place == -1 ? 0 : 1);
         c.due("fault: " + text, x.fault(), place);
         c.due("tape: " + text, x.count(6), 0);
@@ -90,7 +79,7 @@ public final class OrdersTest {
     }
 
     private static void told(String sum, int due) {
-        PeopleLent x = library();
+        PeopleLent x = Worlds.orderly();
         x.lend(1, 1);
         x.terms(0, 5);
         x.pass();
@@ -117,7 +106,7 @@ public final class OrdersTest {
     }
 
     private static void times() {
-        PeopleLent x = library();
+        PeopleLent x = Worlds.orderly();
         c.due("pass times 20", Check.orders(x, "pass times 20"), 20);
         c.due("week", x.count(13), 20);
         c.due("if is asked each time", Check.orders(x, "pass times 20 if week<23"), 3);
@@ -132,7 +121,7 @@ public final class OrdersTest {
     }
 
     private static void stops(String text, int clause) {
-        PeopleLent x = library();
+        PeopleLent x = Worlds.orderly();
         x.lend(0, 0);
         x.pass();
         c.due("orders: " + text, Check.orders(x, text), -3);
@@ -166,7 +155,7 @@ public final class OrdersTest {
         stops("wait 0-1 for 1", 0);
         stops("lend 2 to 1", 0);
         stops("bring 0 times 2", 0);
-        PeopleLent x = library();
+        PeopleLent x = Worlds.orderly();
         x.terms(0, 990);
         c.due("beyond week 999", Check.orders(x, "pass times 10"), -3);
         c.due("week", x.count(13), 990);
@@ -187,7 +176,7 @@ public final class OrdersTest {
     }
 
     private static void undone() {
-        PeopleLent x = library();
+        PeopleLent x = Worlds.orderly();
         Check.orders(x, "lend 0 to 0;pass times 3;bring 0;wait 0 for 0");
         c.due("can be undone", x.count(5), 6);
         int[] due = {2, 1, 3, 3, 3, 0, -3};
@@ -207,7 +196,7 @@ public final class OrdersTest {
     }
 
     private static void latest() {
-        PeopleLent x = library();
+        PeopleLent x = Worlds.orderly();
         x.lend(0, 0);
         x.lend(1, 1);
         x.terms(0, 7);

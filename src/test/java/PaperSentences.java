@@ -148,6 +148,14 @@ final class PaperSentences {
         wayDue(s, x, 0, 7, 8, 4);
         x.book(8, 0, 7, 0);
         wayDue(s, x, 0, 7, 8, 4);
+        PeopleLent fewest = new PeopleLent();
+        fewest.book(1, 0, 1, 0);
+        fewest.book(1, 1, 2, 0);
+        fewest.book(2, 0, 3, 0);
+        wayDue(s, fewest, 0, 3, 2, 2);
+        wayDue(s, fewest, 1, 3, 1, 1);
+        fewest.book(1, 2, 4, 0);
+        wayDue(s, fewest, 0, 4, 3, 2, 3);
         PeopleLent order = new PeopleLent();
         order.book(2, 0, 2, 0);
         order.book(2, 0, 1, 0);

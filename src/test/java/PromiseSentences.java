@@ -236,6 +236,17 @@ final class PromiseSentences {
             s.due("laws", x.count(4), law + 1);
             s.due("status()", x.status(), 0);
         }
+        PeopleLent long1 = new PeopleLent();
+        long1.book(1, 0, 0, 0);
+        long1.reader(0, 0);
+        for (int time = 0; time < 12; time++) {
+            Check.orders(long1, "pass if " + Check.many("1=1 and ", 24) + "1=2");
+        }
+        s.due("behind long texts", Check.law(long1, "fines " + Check.many("1+", 49) + "1"), 0);
+        long1.force(0);
+        s.due("it is all there", long1.asks(0, 0, 0), 50);
+        s.due("an earlier law stays", Check.law(long1, "fines 7"), 1);
+        s.due("fines", long1.asks(0, 0, 0), 50);
 
         s.says("-5 (ahead of reading it; the TAPE is empty then, too); -6 (blanks alone: FAULT at the end).");
         for (String text : new String[] {"fines 1", "fines", ""}) {
@@ -451,6 +462,16 @@ final class PromiseSentences {
             s.due("week", y.count(13), week);
         }
         s.due("the 17th", y.undo(), -3);
+        PeopleLent twice = new PeopleLent();
+        Check.orders(twice, "pass");
+        Check.orders(twice, "pass;bring 0");
+        Check.orders(twice, "pass times 2");
+        s.due("those of each text once", twice.count(5), 3);
+        for (int week = 2; week >= 0; week--) {
+            s.due("undo", twice.undo(), 3);
+            s.due("week", twice.count(13), week);
+        }
+        s.due("none", twice.undo(), -3);
         PeopleLent law = Worlds.rich();
         law.pass();
         law.force(1);

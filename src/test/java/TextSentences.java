@@ -57,7 +57,14 @@ final class TextSentences {
         s.lawReads("  fines    1   ;  bars   ");
         s.lawReads("fines 1if 1=1;bars if(1=1)and not(2=1)or 3=1");
         s.lawReads("fines[[1]+2]*3-worn%2/7");
+        s.ordersRead("pass times3if with0=1and purse7=1");
         s.lawFault("finesx 1", 0);
+        s.lawFault("barsz", 0);
+        s.lawFault("barsa", 0);
+        s.lawFault("zbars", 0);
+        s.lawFault("fines 1z", 7);
+        s.lawFault("fines 10 0", 9);
+        s.lawFault("fines 19 9", 9);
         s.lawFault("barsif 1=1", 0);
         s.lawFault("fi nes 1", 0);
         s.lawFault("fines 1 2", 8);
@@ -149,6 +156,11 @@ final class TextSentences {
         s.lawFault("bars if <1", 8);
         s.lawFault("bars if not", 11);
         s.lawFault("bars if ()", 9);
+        s.lawFault("bars if (", 9);
+        s.lawFault("bars if (1=", 11);
+        s.lawFault("bars if (1=;bars", 11);
+        s.lawFault("bars if (;bars", 9);
+        s.lawFault("bars if not (not (1", 19);
         s.lawFault("bars if (1)<2", 10);
         s.lawFault("bars if (1<2", 12);
         s.lawFault("bars if (1<2]", 12);
@@ -190,6 +202,11 @@ final class TextSentences {
         fines(s, "20-[5-3]", 18);
         fines(s, "length", 4);
         s.lawFault("fines []", 7);
+        s.lawFault("fines [", 7);
+        s.lawFault("fines [;fines 1", 7);
+        s.lawFault("fines [1+", 9);
+        s.lawFault("fines [1+;fines 1", 9);
+        s.lawFault("fines [[1]*", 11);
         s.lawFault("fines [1", 8);
         s.lawFault("fines [1)", 8);
         s.lawFault("fines 1]", 7);
@@ -252,6 +269,10 @@ final class TextSentences {
         s.ordersFault("lend 1 to " + many(" ", 390), 400);
         s.ordersFault(many("9", 400), 0);
         s.lawFault(many("x", 400), 0);
+        s.lawFault(many("?", 400), 0);
+        s.lawFault(many(" ", 397) + "bar", 397);
+        s.ordersFault(many(" ", 397) + "pas", 397);
+        s.lawFault("bars if " + many("(", 392), 16);
     }
 
     private static void broken(Sentences s) {
@@ -315,5 +336,7 @@ final class TextSentences {
         so(s, "not (1=1 and 1=2 and 1/0=1)", 1);
         so(s, "1=2 and 1/0=1 or 1=1", 1);
         so(s, "1=1 or 1=1 and 1/0=1", 1);
+        so(s, "1=2 and 1=1+1/0 or not 1=2", 1);
+        so(s, "1=2 and 1=1+1/0 or not 1=1", 0);
     }
 }

@@ -77,4 +77,31 @@ final class Worlds {
         Check.tape(x, Check.many(" ", 396) + "pass");
         return x;
     }
+
+    /** Book 1 has reader 1 since week 4, it is week 6; book 0 and reader 0 are at rest; no laws yet. */
+    static PeopleLent lawful() {
+        PeopleLent x = new PeopleLent();
+        x.book(4, 0, 1, 83);
+        x.book(9, 2, 8, 55);
+        x.reader(7, 0);
+        x.reader(18, 0);
+        x.terms(3, 8);
+        x.terms(0, 4);
+        x.lend(1, 1);
+        x.pass();
+        x.pass();
+        return x;
+    }
+
+    /** Three books, the last wants 4; three readers, the last rare; week 0, all at the desk. */
+    static PeopleLent orderly() {
+        PeopleLent x = new PeopleLent();
+        x.book(2, 0, 1, 100);
+        x.book(3, 0, 2, 7);
+        x.book(1, 4, 4, 50);
+        x.reader(0, 0);
+        x.reader(3, 0);
+        x.reader(63, 1);
+        return x;
+    }
 }

@@ -242,6 +242,58 @@ final class YearSentences {
         s.due("who waits", x.waits(2, 1), -3);
         s.due("the law in force", x.asks(0, 0, 0), 3);
         s.due("law 1", x.owed(1), 0);
+        others(s);
+    }
+
+    /** Other books, readers, laws, terms at the same numbers: then back to the first ones. */
+    private static void others(Sentences s) {
+        PeopleLent x = new PeopleLent();
+        x.image(0);
+        fill(x, 1);
+        x.image(1);
+        x.back(0);
+        fill(x, 2);
+        s.due("others", x.of(0, 0), 2);
+        x.back(1);
+        for (int time = 1; time <= 2; time++) {
+            int[] book = {time, 0, 10 + time, 100 * time, 1};
+            for (int what = 0; what < 5; what++) {
+                s.due("of(0, " + what + ")", x.of(0, what), book[what]);
+            }
+            s.due("wants", x.of(1, 1), 32 + time);
+            int[] reader = {20 + time, 0, 3 * time, 0, 50 * time, 0};
+            for (int what = 0; what < 6; what++) {
+                s.due("at(1, " + what + ")", x.at(1, what), reader[what]);
+            }
+            s.due("rare", x.at(0, 1), 2 - time);
+            s.due("fines", x.asks(0, 0, 0), 30 + time);
+            s.due("by law 1", x.owed(1), 0);
+            s.due("waits", x.waits(2 - time, 2 - time), -3);
+            s.due("week", x.count(13), 50 * time + 1);
+            s.due("weeks", x.count(14), 5 + time);
+            x.back(0);
+            s.due("nothing", x.count(0) + x.count(1) + x.count(3) + x.count(4), 0);
+            fill(x, 2);
+        }
+        s.due("a new reader is not worn", x.at(2, 2), 0);
+        s.due("nor has it read", x.at(2, 5), 0);
+        s.due("it is at the desk", x.at(2, 3), -1);
+    }
+
+    private static void fill(PeopleLent x, int time) {
+        x.book(time, 0, 10 + time, 100 * time);
+        x.book(1, 32 + time, 0, 0);
+        x.reader(0, 2 - time);
+        x.reader(20 + time, 0);
+        x.reader(0, 0);
+        Check.law(x, "fines " + (30 + time) + ";wears " + 3 * time);
+        Check.law(x, "fines " + (40 + time));
+        x.force(0);
+        x.terms(0, 50 * time);
+        x.terms(1, 5 + time);
+        x.waits(2 - time, 2 - time);
+        x.lend(1, 0);
+        x.pass();
     }
 
     private static void change(PeopleLent x) {

@@ -8,7 +8,6 @@ import java.util.List;
 import java.util.regex.Matcher;
 import java.util.regex.Pattern;
 import java.util.stream.Stream;
-import javax.tools.ToolProvider;
 
 /** README.md is held against what stands: its example is compiled and run, each call and each test is named. */
 public final class ReadmeTest {
@@ -64,7 +63,7 @@ public final class ReadmeTest {
         Path room = Files.createTempDirectory("readme");
         Path file = Files.writeString(room.resolve("Example.java"), source);
         String classes = System.getProperty("java.class.path");
-        int fault = ToolProvider.getSystemJavaCompiler().run(null, null, null, "-cp", classes, file.toString());
+        int fault = new ProcessBuilder("javac", "-cp", classes, file.toString()).inheritIO().start().waitFor();
         c.due("the example compiles", fault, 0);
         long[] answers = {};
         if (fault == 0) {
